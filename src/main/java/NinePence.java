@@ -1193,6 +1193,7 @@ public final class NinePence {
         private final Slips slips;
         private final Singles singles;
         private final int[] weights = new int[MOST_ENTRIES];
+        private final int[] figures = new int[MOST_ENTRIES];
         private final int[] order = new int[MOST_ENTRIES];
 
         Look(Ledger ledger, Slips slips, Singles singles) {
@@ -1216,6 +1217,7 @@ public final class NinePence {
                 }
             }
             for (int entry = 0; entry < ledger.size; entry++) {
+                Rows.set(figures, entry, Figures.many(ledger.told(entry, SUM)));
                 if (Rows.at(weights, entry) > 0) {
                     insert(entry);
                 }
@@ -1234,22 +1236,19 @@ public final class NinePence {
         }
 
         private boolean isSooner(int entry, int another) {
-            return Rows.at(weights, entry) * figuresOf(another) > Rows.at(weights, another) * figuresOf(entry);
-        }
-
-        private int figuresOf(int entry) {
-            return Figures.many(ledger.told(entry, SUM));
+            return Rows.at(weights, entry) * Rows.at(figures, another)
+                > Rows.at(weights, another) * Rows.at(figures, entry);
         }
 
         private void sumUp() {
             figuresByWeight = 0;
             allWeights = 0;
-            int figures = 0;
+            long lookedAt = 0;
             for (int i = 0; i < size; i++) {
                 int entry = entryAt(i);
                 long weight = Rows.at(weights, entry);
-                figures += figuresOf(entry);
-                figuresByWeight += weight * figures;
+                lookedAt += Rows.at(figures, entry);
+                figuresByWeight += weight * lookedAt;
                 allWeights += weight;
             }
         }

@@ -20,9 +20,14 @@ public final class OracleTest {
         Check check = new Check("OracleTest");
         for (int run = 0; run < RUNS; run++) {
             OracleTest test = new OracleTest(check, run);
-            test.fillBook();
+            if (run % 2 == 0) {
+                test.fillBook();
+            } else {
+                test.plantSlips();
+            }
             for (int call = 0; call < CALLS; call++) {
-                test.call();
+                // Behind planted slips most calls ask, and few change.
+                test.call(run % 2 == 0 || call % 30 == 29 ? test.below(30) : 9 + test.below(21));
             }
         }
         check.finish();
@@ -120,6 +125,73 @@ public final class OracleTest {
         }
     }
 
+    // A book that agreed, page by page as due, until a slip or two were made in it.
+    private void plantSlips() {
+        for (int texts = below(4); texts > 0; texts--) {
+            StringBuilder reads = new StringBuilder("hand " + below(4) + " " + below(5) + " " + below(100));
+            for (int i = 0; i < 9; i++) {
+                int figure = below(10);
+                reads.append(";read ").append(figure).append(' ').append((figure + 1 + below(9)) % 10).append(' ').append(below(100));
+            }
+            tell(reads.toString());
+        }
+        for (int texts = 1 + below(3); texts > 0; texts--) {
+            StringBuilder entries = new StringBuilder("second " + below(100));
+            for (int i = 0; i < 4; i++) {
+                int sum = sum();
+                entries.append(";left ").append(sum).append(' ').append(below(2)).append(' ').append(below(4)).append(' ').append(below(6));
+                entries.append(";right ").append(sum).append(' ').append(below(2)).append(' ').append(below(4)).append(' ').append(below(6));
+            }
+            tell(entries.toString());
+        }
+        for (int page = 0; page < 6; page++) {
+            int out = oracle.out(page) - 50000000;
+            if (below(3) == 0 && Math.abs(out) <= 999999) {
+                tell("page " + page + (out < 0 ? " right " : " left ") + Math.abs(out));
+            }
+        }
+        for (int slips = 1 + below(2); slips > 0; slips--) {
+            slip(below(oracle.count(0)));
+        }
+    }
+
+    private void slip(int entry) {
+        int side = oracle.entry(entry, 0), sum = oracle.entry(entry, 1);
+        StringBuilder figures = new StringBuilder().append(sum);
+        int at = below(figures.length());
+        switch (below(6)) {
+            case 0:
+                figures.setCharAt(at, (char) ('1' + below(9)));
+                break;
+            case 1:
+                figures.append('0');
+                break;
+            case 2:
+                figures.setLength(Math.max(1, figures.length() - 1));
+                break;
+            case 3:
+                side = 1 - side;
+                break;
+            case 4:
+                int twin = below(oracle.count(0));
+                side = oracle.entry(twin, 0);
+                figures = new StringBuilder().append(oracle.entry(twin, 1));
+                break;
+            default:
+                char moved = figures.charAt(at);
+                figures.deleteCharAt(at).insert(Math.max(at - 1, 0), moved);
+                break;
+        }
+        int slipped = figures.length() > 6 ? sum : Integer.parseInt(figures.toString());
+        due("mend", x.mend(entry, side, slipped), oracle.mend(entry, side, slipped));
+    }
+
+    private void tell(String text) {
+        write(text);
+        book();
+        erase();
+    }
+
     private void write(String text) {
         byte[] bytes = text.getBytes(StandardCharsets.ISO_8859_1);
         for (int from = 0; from < bytes.length; from += 8) {
@@ -145,9 +217,9 @@ public final class OracleTest {
         check.due("run " + run + " " + call, got, want);
     }
 
-    private void call() {
+    private void call(int sort) {
         int entries = oracle.count(0);
-        switch (below(30)) {
+        switch (sort) {
             case 0: {
                 write(text());
                 fault();
