@@ -1041,14 +1041,14 @@ public final class NinePence {
         }
 
         private void put(int kind, int place, int should, int change, int weight) {
-            if (weight <= 0 || size < 0 || size >= MOST_SLIPS) {
+            if (weight <= 0 || size >= MOST_SLIPS) {
                 return;
             }
-            kinds[size] = kind;
-            places[size] = place;
-            shoulds[size] = should;
-            changes[size] = change;
-            weights[size] = weight;
+            Rows.set(kinds, size, kind);
+            Rows.set(places, size, place);
+            Rows.set(shoulds, size, should);
+            Rows.set(changes, size, change);
+            Rows.set(weights, size, weight);
             size++;
         }
 

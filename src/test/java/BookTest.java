@@ -140,6 +140,15 @@ public final class BookTest {
         faultDue("free", 0);
         faultDue("lef 1 0 0 0", 0);
         faultDue(" lefty 1 0 0 0", 1);
+        faultDue("leftz 1 0 0 0", 0);
+        faultDue("zleft 1 0 0 0", 0);
+        faultDue("aleft 1 0 0 0", 0);
+        faultDue("lefta 1 0 0 0", 0);
+        for (String word : new String[] {"left 1 0 0 0", "right 1 0 0 0", "hand 0 0 0", "read 0 1 0", "missed 0", "carry 0",
+            "second 0", "page 0 free"}) {
+            faultDue("x" + word.substring(1), 0);
+        }
+        faultDue("page 0 tree", 7);
         faultDue("pages 0 free", 0);
         faultDue("Left 1 0 0 0", 0);
         faultDue("left left 1 0 0 0", 5);

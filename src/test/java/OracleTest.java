@@ -30,7 +30,36 @@ public final class OracleTest {
                 test.call(run % 2 == 0 || call % 30 == 29 ? test.below(30) : 9 + test.below(21));
             }
         }
+        new OracleTest(check, RUNS).askCrowded();
         check.finish();
+    }
+
+    // As many slips as there can be: thirty sums of six unlike figures, twice each, and each figure read as any other.
+    private void askCrowded() {
+        for (int figure = 0; figure < 10; figure++) {
+            StringBuilder reads = new StringBuilder("carry 99");
+            for (int other = 0; other < 10; other++) {
+                if (other != figure) {
+                    reads.append(";read ").append(figure).append(' ').append(other).append(" 99");
+                }
+            }
+            tell(reads.toString());
+        }
+        for (int hand = 0; hand < 4; hand++) {
+            tell("hand " + hand + " 0 99;hand " + hand + " 1 99;hand " + hand + " 2 99;hand " + hand + " 3 99;hand " + hand + " 4 99");
+        }
+        for (int i = 0; i < 30; i++) {
+            tell((i % 3 == 0 ? "left " : "right ") + (i < 10 ? 123456 : i < 20 ? 98765 : 654321) + " 0 " + i % 4 + " " + i % 6);
+        }
+        for (int i = 0; i < 6; i++) {
+            due("two", x.two(i % 2), oracle.two(i % 2));
+            due("hide", x.hide(i % 2), oracle.hide(i % 2));
+            due("pair(true)", x.pair(true, i), oracle.pair(true, i));
+            due("pair(false)", x.pair(false, i), oracle.pair(false, i));
+            due("one", x.one(i - 1, 2, false), oracle.one(i - 1, 2, false));
+            due("chance", x.chance(i, 1), oracle.chance(i, 1));
+            balanceByLast();
+        }
     }
 
     // A fixed row of numbers that looks like none: the same calls always, and no source of chance.

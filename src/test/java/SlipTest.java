@@ -72,6 +72,8 @@ public final class SlipTest {
         signsDue(2, "left 3 0 0 0;left 3 0 0 0");
         signsDue(0, "left 3 0 0 0;right 9 0 0 0");
         signsDue(0, "left 3 0 0 0;left 8 0 0 0;right 4 0 0 0");
+        signsDue(1, "left 4 0 0 0;left 14 0 0 0;right 9 0 0 0");
+        signsDue(2, "left 4 0 0 3;left 4 0 0 5");
         // Out itself on the greater side, on the lesser one.
         signsDue(4, "right 6 0 0 0;left 6 0 0 0;right 6 0 0 0");
         signsDue(0, "left 6 0 0 0;right 12 0 0 0");
@@ -161,6 +163,14 @@ public final class SlipTest {
         manyDue(Check.told("read 0 5 3;left 150 0 0 0;right 100 0 0 0;hand 0 1 0"), false, 1);
         oneDue(Check.told("read 3 5 2;left 5 0 0 0;right 3 0 0 0"), false, 0, FIGURE, 0, 3, -2, 2);
         oneDue(Check.told("read 8 3 2;left 312345 0 0 0;right 812345 0 0 0"), false, 0, FIGURE, 0, 812345, 500000, 2);
+        manyDue(Check.told("read 0 5 3;left 57 0 0 0;right 7 0 0 0"), false, 1);
+        // Upwards too: by one, to 9, at the last figure and at the first; each way once.
+        oneDue(Check.told("read 2 1 5;left 31 0 0 0;right 32 0 0 0"), false, 0, FIGURE, 0, 32, 1, 5);
+        oneDue(Check.told("read 9 8 5;left 38 0 0 0;right 39 0 0 0"), false, 0, FIGURE, 0, 39, 1, 5);
+        oneDue(Check.told("read 9 0 5;left 30 0 0 0;right 39 0 0 0"), false, 0, FIGURE, 0, 39, 9, 5);
+        manyDue(Check.told("read 4 5 5;left 35 0 0 0;right 34 0 0 0;missed 0"), false, 1);
+        manyDue(Check.told("read 2 3 5;left 35 0 0 0;right 25 0 0 0;missed 0;carry 0"), false, 1);
+        manyDue(Check.told("read 6 5 5;left 35 0 0 0;right 36 0 0 0;missed 0"), false, 1);
         // A later text about the same figures takes the place of the earlier one.
         oneDue(Check.told("read 3 5 2;left 5 0 0 0;right 3 0 0 0", "read 3 5 9"), false, 0, FIGURE, 0, 3, -2, 9);
     }
@@ -208,6 +218,8 @@ public final class SlipTest {
         oneDue(x, false, 0, MISSED, 1, 999999, -999999, 99);
         NinePence y = Check.told("right 7 0 0 0");
         oneDue(y, false, 0, MISSED, 0, 7, 7, 1);
+        oneDue(Check.told("left 2 0 0 0;right 1 0 0 0"), false, 0, MISSED, 1, 1, -1, 1);
+        oneDue(Check.told("left 1 0 0 0;right 2 0 0 0"), false, 0, MISSED, 0, 1, 1, 1);
         manyDue(Check.told("left 999999 0 0 0;left 2 0 0 0;right 1 0 0 0"), false, 0);
         manyDue(Check.told("left 7 0 0 0;missed 0"), false, 0);
         manyDue(Check.told("left 7 0 0 0;right 7 0 0 0"), false, 0);
