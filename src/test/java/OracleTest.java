@@ -49,7 +49,7 @@ public final class OracleTest {
             tell("hand " + hand + " 0 99;hand " + hand + " 1 99;hand " + hand + " 2 99;hand " + hand + " 3 99;hand " + hand + " 4 99");
         }
         for (int i = 0; i < 30; i++) {
-            tell((i % 3 == 0 ? "left " : "right ") + (i < 10 ? 123456 : i < 20 ? 98765 : 654321) + " 0 " + i % 4 + " " + i % 6);
+            tell((i % 2 == 0 ? "left " : "right ") + (i < 10 ? 123456 : i < 20 ? 98765 : 654321) + " 0 " + i % 4 + " " + i % 6);
         }
         for (int i = 0; i < 6; i++) {
             due("two", x.two(i % 2), oracle.two(i % 2));
