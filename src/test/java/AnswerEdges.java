@@ -32,18 +32,11 @@ final class AnswerEdges {
         edges.due(call, got, want);
     }
 
-    private static void tell(NinePence x, String text) {
-        Check.tell(x, text);
-        if (x.book() < 1) {
-            throw new IllegalStateException("not a text: " + text);
-        }
-    }
-
     /** A book of these sums, those below 0 on the right. */
     private static NinePence book(int... sums) {
         NinePence x = new NinePence();
         for (int sum : sums) {
-            tell(x, (sum > 0 ? "left " : "right ") + Math.abs(sum) + " 0 0 0");
+            Check.done(x, (sum > 0 ? "left " : "right ") + Math.abs(sum) + " 0 0 0");
         }
         return x;
     }
@@ -140,7 +133,7 @@ final class AnswerEdges {
         bitDue(3, 0, 999999, 999999, -999998);
         bitDue(3, 0, 50000, 50000, 50000);
         NinePence million = BookEdges.bookOf(10, "left", 999999);
-        tell(million, "left 10 0 0 0");
+        Check.done(million, "left 10 0 0 0");
         due("bit 3 of ten millions", million.signs() & 8, 0);
     }
 
@@ -205,7 +198,7 @@ final class AnswerEdges {
     private static NinePence thirtyToLookAt() {
         NinePence x = Check.told("left 21 0 0 0;read 0 9 1;read 9 0 1;hand 0 2 0;hand 0 3 0;hand 0 4 0;carry 0");
         for (int i = 0; i < 29; i++) {
-            tell(x, i < 6 ? "right 12 0 0 0" : i < 16 ? "left 19 0 0 0" : "right 10 0 0 0");
+            Check.done(x, i < 6 ? "right 12 0 0 0" : i < 16 ? "left 19 0 0 0" : "right 10 0 0 0");
         }
         return x;
     }
@@ -230,34 +223,34 @@ final class AnswerEdges {
         lookDue(x, false, 0, 1);
         lookDue(y, false, 0, 1);
         // A little more, and a little less.
-        tell(x, "hand 0 2 3");
-        tell(y, "hand 0 2 3");
+        Check.done(x, "hand 0 2 3");
+        Check.done(y, "hand 0 2 3");
         lookDue(x, false, 0, 1);
         lookDue(y, false, 1, 0);
-        tell(x, "hand 0 2 1");
-        tell(y, "hand 0 2 1");
+        Check.done(x, "hand 0 2 1");
+        Check.done(y, "hand 0 2 1");
         lookDue(x, false, 1, 0);
         lookDue(y, false, 0, 1);
         // The greatest odds, one apart.
         NinePence z = Check.told("left 21 0 0 0;right 12 0 1 0;hand 0 0 98;hand 1 0 99");
         lookDue(z, false, 1, 0);
-        tell(z, "hand 0 0 99");
+        Check.done(z, "hand 0 0 99");
         lookDue(z, false, 0, 1);
         // 99 * 99 by six figures is just as much as 99 * 33 by two.
         NinePence w = Check.told("left 123455 0 0 0;right 13 0 1 0;read 3 5 99;read 5 3 33;hand 0 1 99;hand 1 1 99;carry 0",
             "right 123440 0 2 0", PairEdges.only(2, NONE));
         due("out(-1)", w.out(-1), 50000002);
         lookDue(w, false, 0, 1);
-        tell(w, "read 5 3 34");
+        Check.done(w, "read 5 3 34");
         lookDue(w, false, 1, 0);
-        tell(w, "read 5 3 32");
+        Check.done(w, "read 5 3 32");
         lookDue(w, false, 0, 1);
         lookInAnyOrder();
         // Narrow, if so asked.
         NinePence v = Check.told("left 21 0 0 0;right 12 0 0 5;page 5 right 21");
         lookDue(v, false, 0, 1);
         lookDue(v, true, 1);
-        tell(v, "page 0 left 1");
+        Check.done(v, "page 0 left 1");
         lookDue(v, true);
         lookDue(v, false, 0, 1);
     }
@@ -279,7 +272,7 @@ final class AnswerEdges {
                 seen |= 1 << weights[i];
             }
             if (seen == 15) {
-                tell(x, "hand 0 0 " + (weights[0] + 1) + ";hand 1 0 " + (weights[1] + 1) + ";hand 2 0 " + (weights[2] + 1)
+                Check.done(x, "hand 0 0 " + (weights[0] + 1) + ";hand 1 0 " + (weights[1] + 1) + ";hand 2 0 " + (weights[2] + 1)
                     + ";hand 3 0 " + (weights[3] + 1));
                 lookDue(x, false, order);
                 // 4 * 2, 3 * 4, 2 * 6 and 1 * 8 by 10, each time anew.

@@ -42,15 +42,19 @@ final class Check {
         return packed;
     }
 
+    /** Writes a text, which must be without fault, and has it done. */
+    static void done(NinePence x, String text) {
+        tell(x, text);
+        if (x.book() < 1) {
+            throw new IllegalStateException("not a text: " + text);
+        }
+    }
+
     /** A new object to which texts were told; each must be without fault. */
     static NinePence told(String... texts) {
         NinePence x = new NinePence();
         for (String text : texts) {
-            tell(x, text);
-            int lines = x.book();
-            if (lines < 1) {
-                throw new IllegalStateException("not a text: " + text);
-            }
+            done(x, text);
         }
         return x;
     }

@@ -29,17 +29,8 @@ final class OtherBookEdges {
         return sums;
     }
 
-    /** An object with entries of these sums, on both sides in turn, and with these lines of the other book. */
     private static NinePence books(int[] sums, int... lines) {
-        NinePence x = new NinePence();
-        for (int i = 0; i < sums.length; i++) {
-            Check.tell(x, (i % 2 == 0 ? "left " : "right ") + sums[i] + " 0 0 0");
-            x.book();
-        }
-        for (int line : lines) {
-            x.other(line);
-        }
-        return x;
+        return OtherBookTest.books(sums, lines);
     }
 
     private void matchDue(NinePence x, int n, int cost, int... lines) {

@@ -19,7 +19,7 @@ public final class OtherBookTest {
     }
 
     /** An object with entries of these sums, and with these lines of the other book. */
-    private static NinePence books(int[] sums, int... lines) {
+    static NinePence books(int[] sums, int... lines) {
         NinePence x = new NinePence();
         for (int i = 0; i < sums.length; i++) {
             Check.tell(x, (i % 2 == 0 ? "left " : "right ") + sums[i] + " 0 0 0");

@@ -43,13 +43,6 @@ final class PairEdges {
         due(call + ", 1)", below, wantBelow);
     }
 
-    private static void tell(NinePence x, String text) {
-        Check.tell(x, text);
-        if (x.book() < 1) {
-            throw new IllegalStateException("not a text: " + text);
-        }
-    }
-
     /** The hand makes slips of one kind alone; of none, if that is NONE. */
     static String only(int hand, int kind) {
         StringBuilder text = new StringBuilder();
@@ -85,7 +78,7 @@ final class PairEdges {
         // All six pages: each two of them, with 10 and 10.
         NinePence six = Check.told("left 20 0 0 0", only(0, NONE));
         for (int i = 1; i < 6; i++) {
-            tell(six, "left 5 0 0 " + i + ";right 5 0 0 " + i);
+            Check.done(six, "left 5 0 0 " + i + ";right 5 0 0 " + i);
         }
         due("two(0) at six pages", six.two(0), 15);
         pairDue(six, false, CARRY, 0, 1, CARRY, 1, 1);
@@ -107,12 +100,12 @@ final class PairEdges {
                     NinePence x = Check.told("left 90 7 1 4;left " + NINETY[kind] + " 7 2 4;read 0 9 1;missed 99;carry " + (carry ? 1 : 0),
                         only(0, NONE), only(1, NONE), only(2, kind), only(3, other));
                     if (!carry) {
-                        tell(x, "left " + NINETY[other] + " 7 3 4");
+                        Check.done(x, "left " + NINETY[other] + " 7 3 4");
                     }
                     // What is left over stands on the other side, so that out is 180 or, with 100 carried, 190.
                     int over = x.out(-1) - 50000000 - (carry ? 190 : 180);
                     if (over != 0) {
-                        tell(x, (over > 0 ? "right " : "left ") + Math.abs(over) + " 0 0 4");
+                        Check.done(x, (over > 0 ? "right " : "left ") + Math.abs(over) + " 0 0 4");
                     }
                     due("two(0) of " + kind + " and " + other, x.two(0), 1);
                     due("two(1) of " + kind + " and " + other, x.two(1), 1);
@@ -138,9 +131,9 @@ final class PairEdges {
     private static NinePence thirteens(int many) {
         NinePence x = Check.told("hand 0 1 99;read 3 5 99;carry 0;hand 0 0 0;hand 0 2 0;hand 0 3 0;hand 0 4 0", only(1, NONE));
         for (int i = 0; i < many; i++) {
-            tell(x, "left 15 0 0 0");
+            Check.done(x, "left 15 0 0 0");
         }
-        tell(x, "right " + (15 * many - 4) + " 0 1 0");
+        Check.done(x, "right " + (15 * many - 4) + " 0 1 0");
         return x;
     }
 
@@ -149,7 +142,7 @@ final class PairEdges {
         NinePence x = Check.told("left 21 0 0 0;left 21 0 2 0;right 24 0 1 0;carry 0", only(0, TURN), only(1, NONE), only(2, TURN));
         int[][] odds = {{1, 1}, {2, 3}, {99, 99}, {99, 1}, {0, 99}, {99, 0}, {0, 0}, {1, 99}};
         for (int[] both : odds) {
-            tell(x, "hand 0 0 " + both[0] + ";hand 2 0 " + both[1]);
+            Check.done(x, "hand 0 0 " + both[0] + ";hand 2 0 " + both[1]);
             due("two(0)", x.two(0), both[0] * both[1] > 0 ? 1 : 0);
             due("two(1)", x.two(1), both[0] * both[1]);
         }
@@ -203,17 +196,17 @@ final class PairEdges {
             for (int other = 0; other < 10; other++) {
                 reads.append(figure == other ? "" : ";read " + figure + " " + other + " 1");
             }
-            tell(x, reads.toString());
+            Check.done(x, reads.toString());
         }
         for (int i = 0; i < 30; i++) {
-            tell(x, (i < 15 ? "left" : "right") + " 123450 0 0 0");
+            Check.done(x, (i < 15 ? "left" : "right") + " 123450 0 0 0");
         }
         // Left and right: all 53 of one as those of the other. On one side: where as much more as less can be,
         // 4 of the second figure, 6 of the third, 8 of the fourth and 8 of the fifth.
         due("hide(0) of a full book", x.hide(0), 15 * 15 * 53 + 2 * (15 * 14 / 2) * (4 + 6 + 8 + 8));
         due("hide(1) of a full book", x.hide(1), 17385);
         pairDue(x, true, FIGURE, 0, 103450, FIGURE, 1, 143450);
-        tell(x, "read 1 2 9");
+        Check.done(x, "read 1 2 9");
         due("hide(0) of a full book", x.hide(0), 17385);
         pairDue(x, true, FIGURE, 0, 113450, FIGURE, 15, 113450);
     }
@@ -234,10 +227,10 @@ final class PairEdges {
         for (int[] row : rows) {
             NinePence x = fourTurns();
             String odds = "hand 0 0 " + row[0] + ";hand 1 0 " + row[1] + ";hand 2 0 " + row[2] + ";hand 3 0 " + row[3];
-            tell(x, odds);
+            Check.done(x, odds);
             pairDue(x, false, TURN, row[4], 12, TURN, row[5], 12);
             // Whatever weighed most before.
-            tell(same, odds);
+            Check.done(same, odds);
             pairDue(same, false, TURN, row[4], 12, TURN, row[5], 12);
         }
         // Of one place by what should stand; the second of the pair likewise: 2 and 2, ahead of 200 and 200.
@@ -251,7 +244,7 @@ final class PairEdges {
         NinePence w = Check.told("left 1 0 0 0;left 21 0 1 0;right 1 0 0 0;right 21 0 1 0;carry 0", only(0, NOUGHT), only(1, TURN));
         due("hide(0)", w.hide(0), 4);
         pairDue(w, true, TURN, 1, 12, TURN, 3, 12);
-        tell(w, "hand 0 2 2");
+        Check.done(w, "hand 0 2 2");
         pairDue(w, true, NOUGHT, 0, 10, NOUGHT, 2, 10);
         // There is none.
         pairDue(new NinePence(), true);
@@ -267,35 +260,35 @@ final class PairEdges {
         for (int i = 0; i < 3; i++) {
             partsDue("chance(" + i, x.chance(i, 0), x.chance(i, 1), 1, 3);
         }
-        tell(x, "missed 99;second 99");
+        Check.done(x, "missed 99;second 99");
         partsDue("chance(0", x.chance(0, 0), x.chance(0, 1), 1, 101);
         partsDue("chance(2", x.chance(2, 0), x.chance(2, 1), 99, 101);
-        tell(x, "missed 0;hand 1 0 0");
+        Check.done(x, "missed 0;hand 1 0 0");
         partsDue("chance(0", x.chance(0, 0), x.chance(0, 1), 1, 1);
         // Six pairs of weight 1, and the missed entry.
         NinePence y = fourTurns();
-        tell(y, "missed 1");
+        Check.done(y, "missed 1");
         partsDue("chance(0, second 1", y.chance(0, 0), y.chance(0, 1), 50, 53);
-        tell(y, "second 0");
+        Check.done(y, "second 0");
         partsDue("chance(0, second 0", y.chance(0, 0), y.chance(0, 1), 1, 1);
-        tell(y, "second 99");
+        Check.done(y, "second 99");
         partsDue("chance(0, second 99", y.chance(0, 0), y.chance(0, 1), 50, 347);
-        tell(y, "second 50");
+        Check.done(y, "second 50");
         partsDue("chance(0, second 50", y.chance(0, 0), y.chance(0, 1), 1, 4);
-        tell(y, "second 99;missed 99;hand 0 0 99;hand 1 0 99;hand 2 0 99;hand 3 0 99");
+        Check.done(y, "second 99;missed 99;hand 0 0 99;hand 1 0 99;hand 2 0 99;hand 3 0 99");
         partsDue("chance(0, all 99", y.chance(0, 0), y.chance(0, 1), 50, 29453);
         // Pairs alone are no single slip.
-        tell(y, "missed 0");
+        Check.done(y, "missed 0");
         due("chance(0, 0) of none", y.chance(0, 0), UNKNOWN);
     }
 
     // The parts are greater than an int holds.
     private void chanceIsLong() {
         NinePence x = thirteens(29);
-        tell(x, "second 99");
+        Check.done(x, "second 99");
         due("one(-1, 0, false)", x.one(-1, 0, false), 1);
         partsDue("chance(0", x.chance(0, 0), x.chance(0, 1), 50, 1930509801347L);
-        tell(x, "missed 99");
+        Check.done(x, "missed 99");
         partsDue("chance(0", x.chance(0, 0), x.chance(0, 1), 50, 19500099053L);
     }
 
@@ -306,10 +299,10 @@ final class PairEdges {
         for (int hand = 0; hand < 4; hand++) {
             partsDue("whose(" + hand, x.whose(hand, 0), x.whose(hand, 1), thirds[hand], thirds[hand] == 0 ? 1 : 3);
         }
-        tell(x, "missed 0;hand 3 0 3");
+        Check.done(x, "missed 0;hand 3 0 3");
         partsDue("whose(0", x.whose(0, 0), x.whose(0, 1), 1, 4);
         partsDue("whose(3", x.whose(3, 0), x.whose(3, 1), 3, 4);
-        tell(x, "hand 0 0 0");
+        Check.done(x, "hand 0 0 0");
         partsDue("whose(0", x.whose(0, 0), x.whose(0, 1), 0, 1);
         partsDue("whose(3", x.whose(3, 0), x.whose(3, 1), 1, 1);
         // Missed entries and carries are of all weights, but no hand's; pairs are not of them.
@@ -328,7 +321,7 @@ final class PairEdges {
     private void promiseTwo() {
         edges.of("TWO: how many (what 0), all WEIGHTS (1). OUTSIDE.");
         NinePence x = fourTurns();
-        tell(x, "hand 1 0 2");
+        Check.done(x, "hand 1 0 2");
         due("two(0)", x.two(0), 6);
         due("two(1)", x.two(1), 9);
         due("two(0) of none", new NinePence().two(0), 0);
@@ -356,7 +349,7 @@ final class PairEdges {
         edges.of("The LIKELIEST of TWO, or of HIDE (hides): of its first SLIP KIND (what 0), PLACE (1), SHOULD (2),"
             + " of its second (3, 4, 5); NONE: there is none. OUTSIDE.");
         NinePence x = fourTurns();
-        tell(x, "left 9 7 0 0;right 9 7 0 0;hand 0 3 5");
+        Check.done(x, "left 9 7 0 0;right 9 7 0 0;hand 0 3 5");
         pairDue(x, false, TURN, 0, 12, TURN, 1, 12);
         pairDue(x, true, SIDE, 5, 9, SIDE, 6, 9);
         // A line twice stands for nothing, and a carry for its column.

@@ -70,22 +70,15 @@ final class SlipEdges {
         return Check.told(texts);
     }
 
-    private static void tell(NinePence x, String text) {
-        Check.tell(x, text);
-        if (x.book() < 1) {
-            throw new IllegalStateException("not a text: " + text);
-        }
-    }
-
     private void placesAndShoulds() {
         edges.of("A SLIP is of a KIND, at a PLACE (an ENTRY, 0 .. 29; CARRY: a PAGE), and what SHOULD stand:"
             + " a SUM (1 .. 999999, not what stands);");
         NinePence full = new NinePence();
         for (int i = 0; i < 28; i++) {
-            tell(full, (i % 2 == 0 ? "left " : "right ") + (700 + i / 2) + " 0 0 0");
+            Check.done(full, (i % 2 == 0 ? "left " : "right ") + (700 + i / 2) + " 0 0 0");
         }
-        tell(full, "right 12 0 1 0;left 21 0 1 0;missed 0;carry 0");
-        tell(full, NO_HAND_0);
+        Check.done(full, "right 12 0 1 0;left 21 0 1 0;missed 0;carry 0");
+        Check.done(full, NO_HAND_0);
         onesDue(full, false, slip(TURN, 28, 21, -9), slip(TURN, 29, 12, -9));
         onesDue(told("left 20 0 0 0;right 10 0 0 5;missed 0"), false, slip(CARRY, 0, 1, -10), slip(CARRY, 5, 1, -10));
         // The least sum that should stand, and the greatest.
@@ -118,7 +111,7 @@ final class SlipEdges {
             if (kind == TWICE) {
                 x.strike(place);
             } else if (kind == MISSED) {
-                tell(x, (place == 0 ? "left " : "right ") + should + " 0 0 0");
+                Check.done(x, (place == 0 ? "left " : "right ") + should + " 0 0 0");
             } else {
                 int side = x.entry(place, 0);
                 x.mend(place, kind == SIDE ? 1 - side : side, should);
@@ -216,7 +209,7 @@ final class SlipEdges {
         // What should stand is right on the other side.
         NinePence book = told("left " + sum + " 0 0 0;read " + x + " " + y + " 3", ONLY_FIGURES, NO_HAND_1);
         if (should > 0) {
-            tell(book, "right " + should + " 0 1 0");
+            Check.done(book, "right " + should + " 0 1 0");
         }
         if (can) {
             onesDue(book, false, slip(FIGURE, 0, should, should - sum, 3));
@@ -290,9 +283,9 @@ final class SlipEdges {
         // The thirtieth, whose twin is the first.
         NinePence full = told("left 7 5 0 0", ONLY_TWICES);
         for (int i = 1; i < 29; i++) {
-            tell(full, (i % 2 == 0 ? "left " : "right ") + (100 + (i - 1) / 2) + " 0 0 0");
+            Check.done(full, (i % 2 == 0 ? "left " : "right ") + (100 + (i - 1) / 2) + " 0 0 0");
         }
-        tell(full, "left 7 5 0 0");
+        Check.done(full, "left 7 5 0 0");
         due("count(0)", full.count(0), 30);
         due("out(-1)", full.out(-1), LIFT + 14);
         due("judge of the thirtieth", full.judge(29, 0, 0), TWICE);
@@ -309,7 +302,7 @@ final class SlipEdges {
             for (int odds : new int[] {0, 1, 50, 99}) {
                 NinePence x = told(books[kind], NO_HAND_0, "missed 0;carry 0;hand 3 " + kind + " " + odds);
                 for (int read : new int[] {1, 99, 0}) {
-                    tell(x, "read 3 5 " + read);
+                    Check.done(x, "read 3 5 " + read);
                     int weight = kind == FIGURE ? odds * read : odds;
                     due("one(-1, 0, false), odds " + odds, x.one(-1, 0, false), weight > 0 ? 1 : 0);
                     due("kind", x.one(0, 0, false), weight > 0 ? kind : NONE);
@@ -382,7 +375,7 @@ final class SlipEdges {
         NinePence x = told("left 10 0 0 5;missed 0", NO_HAND_0);
         onesDue(x, false, slip(CARRY, 5, 1, -10));
         for (int page = 0; page < 5; page++) {
-            tell(x, "left 3 0 0 " + page + ";right 3 0 0 " + page);
+            Check.done(x, "left 3 0 0 " + page + ";right 3 0 0 " + page);
         }
         onesDue(x, false, slip(CARRY, 0, 1, -10), slip(CARRY, 1, 1, -10), slip(CARRY, 2, 1, -10), slip(CARRY, 3, 1, -10),
             slip(CARRY, 4, 1, -10), slip(CARRY, 5, 1, -10));
@@ -403,13 +396,13 @@ final class SlipEdges {
         edges.of("(that PAGE's OUT is otherwise by it, too),");
         NinePence x = told("left 110 0 0 0;right 10 0 0 5;missed 0", NO_HAND_0);
         onesDue(x, true, slip(CARRY, 0, 2, -100), slip(CARRY, 5, 2, -100));
-        tell(x, "page 0 left 110");
+        Check.done(x, "page 0 left 110");
         onesDue(x, true, slip(CARRY, 5, 2, -100));
-        tell(x, "page 0 left 10");
+        Check.done(x, "page 0 left 10");
         onesDue(x, true, slip(CARRY, 0, 2, -100));
-        tell(x, "page 5 right 110");
+        Check.done(x, "page 5 right 110");
         onesDue(x, true);
-        tell(x, "page 0 left 110");
+        Check.done(x, "page 0 left 110");
         onesDue(x, true, slip(CARRY, 5, 2, -100));
         // out and off tell what stands, not what a carry would make of it.
         due("out(5)", x.out(5), LIFT - 10);
@@ -433,7 +426,7 @@ final class SlipEdges {
         NinePence x = told("left 21 0 0 0;right 12 0 0 2;left 19 0 0 1;right 10 0 0 1;read 0 9 1;read 9 0 1;hand 1 2 0",
             "left 10 0 0 2;right 1 0 0 0;right 9 0 0 3;right 9 0 0 3;left 9 0 1 5;right 19 0 1 3");
         due("out(-1)", x.out(-1), LIFT - 1);
-        tell(x, "left 10 2 1 4");
+        Check.done(x, "left 10 2 1 4");
         due("out(-1)", x.out(-1), LIFT + 9);
         onesDue(x, false, slip(TURN, 0, 12, -9), slip(TURN, 1, 21, -9), slip(FIGURE, 2, 10, -9), slip(FIGURE, 3, 19, -9),
             slip(NOUGHT, 4, 1, -9), slip(NOUGHT, 5, 10, -9), slip(MISSED, 1, 9, -9));
@@ -457,15 +450,15 @@ final class SlipEdges {
         NinePence x = ninety();
         onesDue(x, false, slip(TURN, 0, 120, -90), slip(TURN, 1, 210, -90), slip(FIGURE, 2, 100, -90), slip(NOUGHT, 3, 10, -90),
             slip(NOUGHT, 4, 100, -90), slip(SIDE, 5, 45, -90), slip(TWICE, 7, 0, -90), slip(MISSED, 1, 90, -90));
-        tell(x, "hand 0 0 0");
+        Check.done(x, "hand 0 0 0");
         onesDue(x, false, slip(TURN, 1), slip(FIGURE, 2), slip(NOUGHT, 3), slip(NOUGHT, 4), slip(SIDE, 5), slip(TWICE, 7), slip(MISSED, 1));
-        tell(x, "read 0 9 0");
+        Check.done(x, "read 0 9 0");
         onesDue(x, false, slip(TURN, 1), slip(NOUGHT, 3), slip(NOUGHT, 4), slip(SIDE, 5), slip(TWICE, 7), slip(MISSED, 1));
-        tell(x, "hand 1 3 0;hand 3 4 0");
+        Check.done(x, "hand 1 3 0;hand 3 4 0");
         onesDue(x, false, slip(TURN, 1), slip(NOUGHT, 3), slip(NOUGHT, 4), slip(MISSED, 1));
-        tell(x, "missed 0;hand 0 2 0;hand 3 2 0");
+        Check.done(x, "missed 0;hand 0 2 0;hand 3 2 0");
         onesDue(x, false, slip(TURN, 1, 210, -90, 3));
-        tell(x, "hand 1 0 0");
+        Check.done(x, "hand 1 0 0");
         onesDue(x, false);
         due("learn(1, 0)", x.learn(1, 0), 1);
         onesDue(x, false, slip(TURN, 1, 210, -90, 1));
@@ -498,28 +491,28 @@ final class SlipEdges {
         onesDue(x, true, slip(TURN, 0, 12, -9), slip(TURN, 1, 21, -9));
         // Off by one too few, just so, and by one too many.
         for (int due = 11; due <= 13; due++) {
-            tell(x, "page 0 left " + due);
+            Check.done(x, "page 0 left " + due);
             onesDue(x, true, due == 12 ? new int[][] {slip(TURN, 0, 12, -9)} : new int[0][]);
             onesDue(x, false, slip(TURN, 0, 12, -9), slip(TURN, 1, 21, -9));
         }
         for (int due = 20; due <= 22; due++) {
-            tell(x, "page 0 left " + due);
+            Check.done(x, "page 0 left " + due);
             onesDue(x, true, due == 21 ? new int[][] {slip(TURN, 1, 21, -9)} : new int[0][]);
         }
         // A due on a page without an entry: 0 is not off, 1 is.
-        tell(x, "page 0 free;page 3 left 0");
+        Check.done(x, "page 0 free;page 3 left 0");
         onesDue(x, true, slip(TURN, 0, 12, -9), slip(TURN, 1, 21, -9));
-        tell(x, "page 3 right 1");
+        Check.done(x, "page 3 right 1");
         onesDue(x, true);
-        tell(x, "page 3 right 0;page 5 right 21");
+        Check.done(x, "page 3 right 0;page 5 right 21");
         onesDue(x, true, slip(TURN, 1, 21, -9));
         // A due of both: each slip leaves the other page off, or a third.
-        tell(x, "page 0 left 12");
+        Check.done(x, "page 0 left 12");
         onesDue(x, true);
         // All six pages may have one, if the slip is at an entry.
-        tell(x, "page 0 left 21;page 1 left 0;page 2 left 0;page 4 left 0");
+        Check.done(x, "page 0 left 21;page 1 left 0;page 2 left 0;page 4 left 0");
         onesDue(x, true, slip(TURN, 1, 21, -9));
-        tell(x, "page 4 left 1");
+        Check.done(x, "page 4 left 1");
         onesDue(x, true);
         // With out 0 there is none, though no page is off.
         onesDue(told("left 5 0 0 0;right 5 0 0 1;page 0 left 5"), true);
@@ -532,22 +525,22 @@ final class SlipEdges {
         NinePence x = told("left 7 0 0 0", NO_HAND_0);
         onesDue(x, true, slip(MISSED, 1, 7, -7));
         for (int page = 0; page < 5; page++) {
-            tell(x, "page " + page + " left " + (page == 0 ? 7 : 0));
+            Check.done(x, "page " + page + " left " + (page == 0 ? 7 : 0));
             onesDue(x, true, slip(MISSED, 1, 7, -7));
         }
-        tell(x, "page 5 left 0");
+        Check.done(x, "page 5 left 0");
         onesDue(x, true);
         onesDue(x, false, slip(MISSED, 1, 7, -7));
         // None though the sixth would be even with it; and any one that is free will do.
-        tell(x, "page 5 left 7");
+        Check.done(x, "page 5 left 7");
         onesDue(x, true);
         for (int page = 0; page < 6; page++) {
-            tell(x, "page 5 left 0;page " + page + " free");
+            Check.done(x, "page 5 left 0;page " + page + " free");
             onesDue(x, true, slip(MISSED, 1, 7, -7));
-            tell(x, "page " + page + " left " + (page == 0 ? 7 : 0));
+            Check.done(x, "page " + page + " left " + (page == 0 ? 7 : 0));
         }
         // A page that is off as it stands stays off: it is not there that the entry was missed.
-        tell(x, "page 0 left 0;page 3 free");
+        Check.done(x, "page 0 left 0;page 3 free");
         onesDue(x, true);
     }
 
@@ -591,7 +584,7 @@ final class SlipEdges {
             due("ofKind(" + kind + ")", x.ofKind(kind), many[kind]);
             due("ofKind(" + kind + ") of none", new NinePence().ofKind(kind), 0);
         }
-        tell(x, "page 0 left 1;page 1 left 1");
+        Check.done(x, "page 0 left 1;page 1 left 1");
         due("one(-1, 0, true)", x.one(-1, 0, true), 0);
         due("ofKind(0), narrow or not", x.ofKind(0), 2);
         NinePence y = told("left 10 0 0 0;right 1 0 0 5;left 1 1 0 5;carry 9", NO_HAND_0);
